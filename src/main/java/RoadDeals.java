@@ -64,14 +64,14 @@ public final class RoadDeals {
     private final Bytes tape = new Bytes(MOST_BYTES);
     private final Reader reader = new Reader(tape);
     private final Acts acts = new Acts();
-    private final Matching matching = new Matching();
-    private final Plan plan = new Plan(matching);
-    private final Plan otherPlan = new Plan(matching);
-    private final int[] counts = new int[MOST_SETS];
-    private final Deals deals = new Deals();
-    private final Image image = new Image();
     private Net net = new Net();
     private final View view = new View(net);
+    private final Matching matching = new Matching();
+    private final Plan plan = new Plan(view, matching);
+    private final Plan otherPlan = new Plan(view, matching);
+    private final int[] counts = new int[MOST_SETS];
+    private final Deals deals = new Deals(view);
+    private final Image image = new Image();
     private int today;
     private int known = NONE;
     private int faultKind;
@@ -220,7 +220,7 @@ public final class RoadDeals {
             return NONE;
         }
         Plan now = planNow();
-        otherPlan.take(view, road, n);
+        otherPlan.take(road, n);
         if (now.hasEnds() != otherPlan.hasEnds()) {
             return net.everybody();
         }
@@ -232,7 +232,7 @@ public final class RoadDeals {
             return NONE;
         }
         Plan now = planNow();
-        otherPlan.take(view, road, CLOSED);
+        otherPlan.take(road, CLOSED);
         if (!now.hasEnds() || !otherPlan.hasEnds()) {
             return 0;
         }
@@ -260,7 +260,7 @@ public final class RoadDeals {
         if (!isRoad(road)) {
             return NONE;
         }
-        otherPlan.take(view, road, CLOSED);
+        otherPlan.take(road, CLOSED);
         int everybody = net.everybody();
         int without = everybody & ~net.pairOf(road);
         int missing = otherPlan.mostOf(everybody) - otherPlan.mostOf(without);
@@ -390,14 +390,14 @@ public final class RoadDeals {
 
     private Plan planNow() {
         if (planStale) {
-            plan.take(view, NONE, CLOSED);
+            plan.take(NONE, CLOSED);
             planStale = false;
         }
         return plan;
     }
 
     private Deals dealsNow() {
-        deals.settle(view);
+        deals.settle();
         return deals;
     }
 
@@ -1407,6 +1407,7 @@ public final class RoadDeals {
 
     /** What all can make on the roads of a view, one of them perhaps with another worth. */
     private static final class Plan {
+        private final View view;
         private final Matching matching;
         private final Bounds bounds = new Bounds();
         private final int[] best = new int[MOST_SETS];
@@ -1418,11 +1419,14 @@ public final class RoadDeals {
         private boolean twiceStale;
         private boolean boundsStale;
 
-        Plan(Matching matching) {
+        Plan(View view, Matching matching) {
+            this.view = view;
             this.matching = matching;
+            net = view.net;
         }
 
-        void take(View view, int changed, int worth) {
+        /** With the worth of one road changed; none is NONE. */
+        void take(int changed, int worth) {
             net = view.net;
             for (int road = 0; road < net.roads; road++) {
                 int told = view.open[road] ? view.gainOf(road) : 0;
@@ -1568,13 +1572,18 @@ public final class RoadDeals {
         // As settled in the view: the road of each one's deal (NONE without), and what each has.
         private final int[] dealOf = new int[MOST_PEOPLE];
         final int[] share = new int[MOST_PEOPLE];
-        private View view;
+        private final View view;
         private Net net;
         // The roads of the deals that are open, and what their first ones had behind each round.
         private final int[] turned = new int[MOST_DEALS];
         private int turns;
         private final int[] past = new int[(MOST_ROUNDS + 1) * MOST_DEALS];
         int outcome;
+
+        Deals(View view) {
+            this.view = view;
+            net = view.net;
+        }
 
         void clear() {
             for (int road = 0; road < MOST_ROADS; road++) {
@@ -1623,9 +1632,8 @@ public final class RoadDeals {
             return true;
         }
 
-        void settle(View now) {
-            view = now;
-            net = now.net;
+        void settle() {
+            net = view.net;
             turns = 0;
             for (int who = 0; who < net.people; who++) {
                 dealOf[who] = NONE;
