@@ -18,6 +18,7 @@ public final class DealTest {
         test.dealRows();
         test.shares();
         test.breaking();
+        test.goingAway();
         test.turningTo();
         test.chains();
         test.evenOnes();
@@ -162,6 +163,21 @@ public final class DealTest {
         x.day(7);
         x.deal(2, 18);
         due.is("holds", x.breaks(), -1);
+    }
+
+    /** Everybody together, just not more than they have, and one alone. */
+    private void goingAway() {
+        RoadDeals x = Due.with("who a alone 2;who b alone 2;road a b worth 5;");
+        due.is("everybody", x.away(), 3);
+        due.is("deal", x.deal(0, 2), 1);
+        due.is("nobody", x.away(), 0);
+        due.is("deal", x.deal(0, 4), 1);
+        due.is("b alone", x.away(), 2);
+        due.is("deal", x.deal(0, 1), 1);
+        due.is("a alone, the least set", x.away(), 1);
+        x.worth(0, 4);
+        due.is("undeal", x.undeal(0), 0);
+        due.is("as much is not more", x.away(), 0);
     }
 
     private void turningTo() {

@@ -16,10 +16,13 @@ public final class MostTest {
             int people = 2 + test.due.next(5);
             test.beside(Brute.random(test.due, people, test.due.next(11), 4, 1 + test.due.next(6)), true);
         }
+        for (int n = 0; n < 60; n++) {
+            test.beside(Brute.random(test.due, 7 + test.due.next(3), 13, 3, 1 + test.due.next(3)), true);
+        }
         for (int n = 0; n < 40; n++) {
             test.beside(Brute.random(test.due, 7 + test.due.next(6), 60, 9, 3 + test.due.next(20)), false);
         }
-        test.due.is("enough nets", test.nets > 420, true);
+        test.due.is("enough nets", test.nets > 480, true);
         test.due.end();
     }
 
@@ -56,6 +59,8 @@ public final class MostTest {
         due.is("moves of none", x.moves(-1, 5), -1);
         due.is("moves -2", x.moves(0, -2), -1);
         due.is("moves 100001", x.moves(0, 100001), -1);
+        due.is("moves 100000", x.moves(0, 100000), 7);
+        due.is("moves 0", x.moves(0, 0), 6);
         due.is("pays of none", x.pays(2), -1);
         due.is("pays of none", x.pays(-1), -1);
         due.is("price", x.price(0), 10);

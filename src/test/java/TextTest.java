@@ -12,6 +12,7 @@ public final class TextTest {
         TextTest test = new TextTest();
         test.taken();
         test.whatStays();
+        test.againAndAgain();
         test.namesAndRoads();
         test.misplaced();
         test.words();
@@ -111,6 +112,30 @@ public final class TextTest {
         due.is("nobody", x.has(0), 0);
         due.is("no roads", x.has(1), 0);
         due.is("no letter", x.letter(0, 0), -1);
+    }
+
+    /** Nothing is left of earlier texts, taken or refused. */
+    private void againAndAgain() {
+        String[] texts = {AB + "taste a b 4;taste b a 1;doubt a b 3;", ABC + "road c a worth 7;taste c b 1;",
+            ABC + "road a b worth 5;", AB + "taste a b 2;", ABC + "road b a worth 6 when day<1;taste b a 9;"};
+        int[] statements = {7, 5, 4, 5, 5};
+        int[] made = {10, 7, 5, 7, 15};
+        int[] doubt = {3, 0, 0, 0, 0};
+        RoadDeals x = new RoadDeals();
+        for (int n = 0; n < 300; n++) {
+            int k = due.next(5);
+            due.is("text " + k, Due.told(x, texts[k]), statements[k]);
+            due.is("made by " + k, x.made(0, 0), made[k]);
+            due.is("doubt by " + k, x.made(0, 2), doubt[k]);
+            due.is("acts", x.has(4), 0);
+            x.worth(0, n);
+            x.deal(0, n);
+            if (due.next(2) == 0) {
+                due.is("refused", Due.told(x, texts[due.next(5)] + "taste a b 1;taste b a 1;doubt a b 1;x"), -1);
+            }
+        }
+        due.is("no doubt of a text refused", Due.told(x, texts[2]), 4);
+        due.is("no doubt of a text refused", x.made(0, 2), 0);
     }
 
     private void namesAndRoads() {
@@ -311,6 +336,10 @@ public final class TextTest {
         worth("((((((((1))))))))+((((((((1))))))))");
         worth("min(min(min(min(min(min(min(min(1,1),1),1),1),1),1),1),1)");
         wrong(5, AB + "road a c worth min(max(min(max(min(max(min(max(min|(1,1),1),1),1),1),1),1),1),1);");
+        worth("min(1,(((((((1))))))))");
+        worth("max((((((((1))))))),(((((((1))))))))");
+        wrong(5, AB + "road a c worth min(1,(((((((|(1)))))))));");
+        wrong(5, AB + "road a c worth max((((((((|(1)))))))),1);");
         when("[[[[[[[[all]]]]]]]]");
         wrong(5, AB + "road a c worth 1 when [[[[[[[[|[all]]]]]]]]];");
         when("[[[[(((day+(day))))<4]]]]");
