@@ -648,29 +648,22 @@ public final class RoadDeals {
             at = 0;
             kind = scanner.kindAt(0);
             for (int n = 0; n < MOST_BYTES && kind != TEXT_END; n++) {
-                if (!statement()) {
+                if (isTooMany()) {
+                    return fail(TOO_MANY);
+                }
+                boolean right = false;
+                switch (kind) {
+                    case WHO: right = whoLives(); break;
+                    case ROAD: right = roadGoes(); break;
+                    case TASTE: right = tasteIs(); break;
+                    case DOUBT: right = doubtIs(); break;
+                    default: return fail(MISPLACED);
+                }
+                if (!right || !skip(';')) {
                     return false;
                 }
+                net.statements++;
             }
-            return true;
-        }
-
-        private boolean statement() {
-            if (isTooMany()) {
-                return fail(TOO_MANY);
-            }
-            boolean right = false;
-            switch (kind) {
-                case WHO: right = whoLives(); break;
-                case ROAD: right = roadGoes(); break;
-                case TASTE: right = tasteIs(); break;
-                case DOUBT: right = doubtIs(); break;
-                default: return fail(MISPLACED);
-            }
-            if (!right || !skip(';')) {
-                return false;
-            }
-            net.statements++;
             return true;
         }
 
@@ -1162,7 +1155,7 @@ public final class RoadDeals {
         }
 
         private static int capped(long value) {
-            return (int) Math.min(Math.max(value, -BILLION), BILLION);
+            return (int) (value > BILLION ? BILLION : value < -BILLION ? -BILLION : value);
         }
     }
 
