@@ -521,25 +521,26 @@ public final class RoadDeals {
         }
 
         private void takeNext() {
-            int before = behind;
             boolean afterLong = isLong(kind);
+            int before = behind;
             start = behind;
             while (start < text.size() && isBlank(text.at(start))) {
                 start++;
             }
             int sign = text.at(start);
+            boolean isLongNext = isLetter(sign) || isDigit(sign);
             if (sign == NONE) {
                 kind = TEXT_END;
+            } else if (afterLong && isLongNext && start == before) {
+                // Looked at ahead of the length: the missing blank stands ahead of what is too long.
+                kind = MISFIT;
             } else if (isLetter(sign)) {
                 takeWord();
-            } else if (isDigit(sign)) {
+            } else if (isLongNext) {
                 takeNumber();
             } else {
                 kind = sign;
                 behind = start + 1;
-            }
-            if (afterLong && isLong(kind) && start == before) {
-                kind = MISFIT;
             }
         }
 

@@ -2,7 +2,7 @@
 public final class MutantTest {
     private static final String[] WORDS = {"who", "alone", "road", "worth", "when", "taste", "less", "doubt", "or",
         "and", "not", "all", "day", "week", "wday", "min", "max", "a", "b", "c", "d", "7", "12", "9999", "(", ")",
-        "[", "]", "<", ">", "=", "+", "-", "*", "/", "%", ",", ";", "x", "abcdefg", "12345", "!", " ", "\n"};
+        "[", "]", "<", ">", "=", "+", "-", "*", "/", "%", ",", ";", "x", "abcdefg", "12345", "5abcdefg", "b12345", "!", " ", "\n"};
     private static final String[] STARTS = {
         "who a alone 1;who b alone 2;who c alone 3;road a b worth min(day,max(2,wday))+3*(4-week) "
             + "when not [day<4 or all] and 3*day>2;road c b worth 1;taste a b 4;taste b a less 2;doubt b a 3;",

@@ -49,6 +49,9 @@ final class Reading {
         boolean letters = isLetter(at);
         boolean digits = isDigit(at);
         boolean glued = at == before && at > 0 && (isLetter(at - 1) || isDigit(at - 1));
+        if (glued && (letters || digits)) {
+            return wrong(1);
+        }
         while (letters && isLetter(at) || digits && isDigit(at)) {
             at++;
         }
@@ -59,7 +62,7 @@ final class Reading {
             start += most;
             return wrong(1);
         }
-        return !glued || !letters && !digits || wrong(1);
+        return true;
     }
 
     private boolean isLetter(int k) {

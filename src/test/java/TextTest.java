@@ -16,6 +16,7 @@ public final class TextTest {
         test.namesAndRoads();
         test.misplaced();
         test.words();
+        test.missingBlanks();
         test.names();
         test.limits();
         test.openOnes();
@@ -254,6 +255,39 @@ public final class TextTest {
             right("who " + word + "x alone 1;", 1);
             right("who x" + word.substring(1) + " alone 1;", 1);
         }
+    }
+
+    /** Where a blank is missing no text goes on: that stands ahead of a letter or a digit too many. */
+    private void missingBlanks() {
+        wrong(1, "who a alone 5|abcdefg");
+        wrong(1, "who a alone 5|abcdefghijklm;");
+        wrong(1, "who a alone 1234|abcdefg;");
+        wrong(1, "who a alone 1234|5abcdefg;");
+        wrong(1, "who a alone|12345;");
+        wrong(1, "who a|12345 alone 5;");
+        wrong(1, "who abcdef|12345 alone 5;");
+        wrong(1, "who abcdef|g12345 alone 5;");
+        wrong(1, "who|12345");
+        wrong(1, AB + "road a c worth 5|abcdefg;");
+        wrong(1, AB + "road a c worth day|12345;");
+        wrong(1, AB + "road a c worth 1 when 1<2|abcdefg;");
+        wrong(1, AB + "road a c worth 1 when all|12345;");
+        wrong(1, AB + "road a c worth min|12345;");
+        wrong(1, AB + "taste a c less|12345;");
+        wrong(1, AB + "doubt a b|12345;");
+        wrong(1, AB + "doubt a b 5|abcdefg;");
+        wrong(1, AB + "road a c worth (1)abcdef|g;");
+        wrong(1, AB + "road a c worth (1)1234|5;");
+        wrong(1, "who a alone 5;abcdef|g");
+        wrong(1, "who a alone 5 abcdef|g");
+        wrong(1, "who a alone 5\nabcdef|g");
+        wrong(1, "who a alone |abc12345;");
+        wrong(1, "|5abcdefg");
+        wrong(1, "1234|5abcdefg");
+        wrong(2, ABC + "who |a12345 alone 5;");
+        wrong(3, ABC + "road |x12345 a worth 1;");
+        wrong(3, ABC + "road a |a12345 worth 1;");
+        wrong(5, people(12) + "|who12345");
     }
 
     private void names() {
