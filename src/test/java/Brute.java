@@ -163,21 +163,25 @@ final class Brute {
     }
 
     int halves() {
-        return halves(0, new int[people]);
+        int[] gains = new int[roads];
+        for (int road = 0; road < roads; road++) {
+            gains[road] = gain(road);
+        }
+        return halves(gains, 0, new int[people]);
     }
 
-    private int halves(int road, int[] used) {
+    private int halves(int[] gains, int road, int[] used) {
         if (road == roads) {
             return 0;
         }
-        int most = halves(road + 1, used);
+        int most = halves(gains, road + 1, used);
         int one = first[road];
         int other = second[road];
-        for (int half = 1; half <= 2 && gain(road) > 0; half++) {
+        for (int half = 1; half <= 2 && gains[road] > 0; half++) {
             if (used[one] + half <= 2 && used[other] + half <= 2) {
                 used[one] += half;
                 used[other] += half;
-                most = Math.max(most, half * gain(road) + halves(road + 1, used));
+                most = Math.max(most, half * gains[road] + halves(gains, road + 1, used));
                 used[one] -= half;
                 used[other] -= half;
             }
@@ -319,6 +323,22 @@ final class Brute {
                 return sum;
             }
         }
+    }
+
+    /** For numbers too great to be tried: what two lack beside what lone ones get is at most given by halves. */
+    int giftByHalves(Integer[] has) {
+        int[] share = share(has);
+        int[] lacks = new int[roads];
+        int twice = 0;
+        for (int who = 0; who < people; who++) {
+            twice += 2 * Math.max(0, alone[who] - share[who]);
+            share[who] = Math.max(alone[who], share[who]);
+        }
+        for (int road = 0; road < roads; road++) {
+            int have = share[first[road]] + share[second[road]];
+            lacks[road] = open[road] ? Math.max(0, made[road] - have) : 0;
+        }
+        return twice + halves(lacks, 0, new int[people]);
     }
 
     private boolean canGive(int[] share, int[] lack, int[] twice, int who, int left) {

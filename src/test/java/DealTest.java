@@ -428,20 +428,41 @@ public final class DealTest {
 
     private void check(RoadDeals x, Brute net, Integer[] has, boolean gift) {
         int[] share = net.share(has);
-        int lone = -1;
-        for (int who = net.people - 1; who >= 0; who--) {
+        for (int who = 0; who < net.people; who++) {
             due.is("share", x.share(who), share[who]);
             due.is("else", x.other(who, false), net.elseOf(has, who));
             due.is("to", x.other(who, true), net.turnsTo(has, who));
             due.is("money", x.money(who), share[who] - ownTaste(net, has, who));
-            lone = share[who] < net.alone[who] ? who : lone;
-            List<Integer> chain = new ArrayList<>();
-            for (int at = who; at >= 0 && !chain.contains(at); at = net.turnsTo(has, at)) {
-                chain.add(at);
-            }
+            List<Integer> chain = chain(net, has, who);
             for (int k = 0; k < net.people + 2; k++) {
                 due.is("chain", x.chain(who, k), k < chain.size() ? chain.get(k) : -1);
             }
+        }
+        int[] holds = holds(net, has);
+        due.is("breaks", x.breaks(), holds[0]);
+        due.is("uneven", x.uneven(), holds[1]);
+        due.is("surely", x.surely(), holds[2]);
+        due.is("away", x.away(), away(net, share));
+        due.is("gift by halves", x.gift(), net.giftByHalves(has));
+        if (gift) {
+            due.is("gift", x.gift(), net.gift(has));
+        }
+    }
+
+    static List<Integer> chain(Brute net, Integer[] has, int who) {
+        List<Integer> chain = new ArrayList<>();
+        for (int at = who; at >= 0 && !chain.contains(at); at = net.turnsTo(has, at)) {
+            chain.add(at);
+        }
+        return chain;
+    }
+
+    /** What breaks(), uneven() and surely() are to tell. */
+    static int[] holds(Brute net, Integer[] has) {
+        int[] share = net.share(has);
+        int lone = -1;
+        for (int who = net.people - 1; who >= 0; who--) {
+            lone = share[who] < net.alone[who] ? who : lone;
         }
         int breaks = -1;
         int uneven = -1;
@@ -460,28 +481,23 @@ public final class DealTest {
                 maybe &= have >= net.made[road] - net.doubt[road];
             }
         }
-        due.is("breaks", x.breaks(), lone >= 0 ? 100 + lone : breaks);
-        due.is("uneven", x.uneven(), uneven);
-        due.is("surely", x.surely(), surely ? 2 : maybe ? 1 : 0);
-        checkSets(x, net, has, share, gift);
+        return new int[] {lone >= 0 ? 100 + lone : breaks, uneven, surely ? 2 : maybe ? 1 : 0};
     }
 
-    private void checkSets(RoadDeals x, Brute net, Integer[] has, int[] share, boolean gift) {
-        int away = 0;
-        for (int set = 1; set <= net.everybody() && away == 0; set++) {
+    static int away(Brute net, int[] share) {
+        for (int set = 1; set <= net.everybody(); set++) {
             int need = net.most(set);
             for (int who = 0; who < net.people; who++) {
                 need += (set >> who & 1) * (net.alone[who] - share[who]);
             }
-            away = need > 0 ? set : 0;
+            if (need > 0) {
+                return set;
+            }
         }
-        due.is("away", x.away(), away);
-        if (gift) {
-            due.is("gift", x.gift(), net.gift(has));
-        }
+        return 0;
     }
 
-    private static int ownTaste(Brute net, Integer[] has, int who) {
+    static int ownTaste(Brute net, Integer[] has, int who) {
         for (int road = 0; road < net.roads; road++) {
             if (has[road] != null && (net.first[road] == who || net.second[road] == who)) {
                 return net.taste[who][net.first[road] + net.second[road] - who];

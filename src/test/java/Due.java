@@ -64,6 +64,27 @@ final class Due {
         return x.text();
     }
 
+    /** A text that is one. */
+    void right(String text, int statements) {
+        RoadDeals x = new RoadDeals();
+        is("text '" + text + "'", told(x, text), statements);
+        is("fault(0) '" + text + "'", x.fault(0), 0);
+        is("fault(1) '" + text + "'", x.fault(1), -1);
+    }
+
+    /** A text with a fault, which is due where | stands. */
+    void wrong(int fault, String marked) {
+        int place = marked.indexOf('|');
+        String text = marked.substring(0, place) + marked.substring(place + 1);
+        RoadDeals x = new RoadDeals();
+        is("text '" + marked + "'", told(x, text), -1);
+        is("fault(0) '" + marked + "'", x.fault(0), fault);
+        is("fault(1) '" + marked + "'", x.fault(1), place);
+        is("fault(2)", x.fault(2), -1);
+        is("fault(-1)", x.fault(-1), -1);
+        is("nobody", x.has(0), 0);
+    }
+
     static RoadDeals with(String text) {
         RoadDeals x = new RoadDeals();
         if (told(x, text) < 0) {

@@ -221,7 +221,8 @@ public final class MostTest {
         due.is("two, greatest", x.two(who, other, ahead, true), ends == null ? Due.NO_NUMBER : ends[1]);
     }
 
-    private static int moved(Brute now, Brute then, boolean leastGrow) {
+    /** Who has other ends then (or whose least ones grow), as bits. */
+    static int moved(Brute now, Brute then, boolean leastGrow) {
         List<int[]> nowShares = now.shares();
         List<int[]> thenShares = then.shares();
         if (leastGrow && (nowShares.isEmpty() || thenShares.isEmpty())) {

@@ -26,23 +26,11 @@ public final class TextTest {
     }
 
     private void right(String text, int statements) {
-        RoadDeals x = new RoadDeals();
-        due.is("text '" + text + "'", Due.told(x, text), statements);
-        due.is("fault(0) '" + text + "'", x.fault(0), 0);
-        due.is("fault(1) '" + text + "'", x.fault(1), -1);
+        due.right(text, statements);
     }
 
-    /** The fault is due where | stands. */
     private void wrong(int fault, String marked) {
-        int place = marked.indexOf('|');
-        String text = marked.substring(0, place) + marked.substring(place + 1);
-        RoadDeals x = new RoadDeals();
-        due.is("text '" + marked + "'", Due.told(x, text), -1);
-        due.is("fault(0) '" + marked + "'", x.fault(0), fault);
-        due.is("fault(1) '" + marked + "'", x.fault(1), place);
-        due.is("fault(2)", x.fault(2), -1);
-        due.is("fault(-1)", x.fault(-1), -1);
-        due.is("nobody", x.has(0), 0);
+        due.wrong(fault, marked);
     }
 
     private void worth(String sum) {
@@ -317,7 +305,7 @@ public final class TextTest {
         wrong(3, "who a alone 1;taste |aa a 1;");
     }
 
-    private static String people(int n) {
+    static String people(int n) {
         StringBuilder text = new StringBuilder();
         for (int k = 0; k < n; k++) {
             text.append("who ").append((char) ('a' + k)).append(" alone 0;");
@@ -326,7 +314,7 @@ public final class TextTest {
     }
 
     /** Statements of a kind with two names, so many at most. */
-    private static String pairs(String kind, String behind, int n, boolean oneWay) {
+    static String pairs(String kind, String behind, int n, boolean oneWay) {
         StringBuilder text = new StringBuilder();
         for (int one = 0; one < 12 && n > 0; one++) {
             for (int other = oneWay ? one + 1 : 0; other < 12 && n > 0; other++) {
