@@ -30,8 +30,8 @@ final class Brute {
         return it;
     }
 
-    /** A net that looks random; each of its roads is open and has the worth that the text tells. */
-    static Brute random(Due due, int people, int roads, int mostAlone, int mostGain) {
+    /** Without roads; there is room for so many. */
+    static Brute of(int people, int roads) {
         Brute it = new Brute();
         it.people = people;
         it.alone = new int[people];
@@ -41,6 +41,20 @@ final class Brute {
         it.made = new int[roads];
         it.doubt = new int[roads];
         it.taste = new int[people][people];
+        return it;
+    }
+
+    void add(int one, int other, int value) {
+        first[roads] = one;
+        second[roads] = other;
+        open[roads] = true;
+        made[roads] = value;
+        roads++;
+    }
+
+    /** A net that looks random; each of its roads is open and has the worth that the text tells. */
+    static Brute random(Due due, int people, int roads, int mostAlone, int mostGain) {
+        Brute it = of(people, roads);
         for (int who = 0; who < people; who++) {
             it.alone[who] = due.next(mostAlone + 1);
         }
@@ -51,12 +65,8 @@ final class Brute {
             if (one != other && !have[one][other]) {
                 have[one][other] = true;
                 have[other][one] = true;
-                it.first[it.roads] = one;
-                it.second[it.roads] = other;
-                it.open[it.roads] = true;
-                it.made[it.roads] = it.alone[one] + it.alone[other] + due.next(mostGain + 1);
-                it.doubt[it.roads] = due.next(3) == 0 ? due.next(5) : 0;
-                it.roads++;
+                it.add(one, other, it.alone[one] + it.alone[other] + due.next(mostGain + 1));
+                it.doubt[it.roads - 1] = due.next(3) == 0 ? due.next(5) : 0;
             }
         }
         return it;
@@ -187,6 +197,24 @@ final class Brute {
             }
         }
         return most;
+    }
+
+    /** The same, for many roads: each one of WHO points at another one, or at nobody, and nobody is pointed at twice. */
+    int halvesByRows() {
+        int[] most = new int[1 << people];
+        for (int one = 0; one < people; one++) {
+            int[] next = most.clone();
+            for (int road = 0; road < roads; road++) {
+                int other = first[road] == one ? second[road] : second[road] == one ? first[road] : -1;
+                for (int set = 0; set <= everybody() && other >= 0; set++) {
+                    if ((set >> other & 1) != 0) {
+                        next[set] = Math.max(next[set], most[set & ~(1 << other)] + gain(road));
+                    }
+                }
+            }
+            most = next;
+        }
+        return most[everybody()];
     }
 
     /** Twice the shares that hold, in half units, all of them. */

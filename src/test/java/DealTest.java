@@ -27,7 +27,10 @@ public final class DealTest {
         test.doubts();
         test.gifts();
         for (int n = 0; n < 400; n++) {
-            test.likeRandom(3 + test.due.next(6), 2 + test.due.next(14), n % 2 == 0);
+            test.likeRandom(3 + test.due.next(6), 2 + test.due.next(14));
+        }
+        for (int n = 0; n < 20; n++) {
+            test.likeRandom(9 + test.due.next(4), 6 + test.due.next(10));
         }
         test.due.end();
     }
@@ -283,17 +286,12 @@ public final class DealTest {
 
     /** Four deals that go in a ring, each turning the next one. */
     private void rings() {
-        Brute net = new Brute();
-        net.people = 8;
-        net.roads = 8;
+        Brute net = Brute.of(8, 8);
         net.alone = new int[] {1, 0, 1, 2, 0, 1, 1, 3};
-        net.first = new int[] {0, 2, 4, 6, 0, 1, 1, 3};
-        net.second = new int[] {1, 3, 5, 7, 7, 2, 4, 6};
-        net.open = new boolean[8];
-        Arrays.fill(net.open, true);
-        net.made = new int[] {9, 9, 9, 9, 9, 9, 1, 9};
-        net.doubt = new int[8];
-        net.taste = new int[8][8];
+        int[][] pairs = {{0, 1}, {2, 3}, {4, 5}, {6, 7}, {0, 7}, {1, 2}, {1, 4}, {3, 6}};
+        for (int[] pair : pairs) {
+            net.add(pair[0], pair[1], pair[1] == 4 ? 1 : 9);
+        }
         String text = net.text(due);
         for (int rounds = 1; rounds < 10; rounds++) {
             RoadDeals x = Due.with(text);
@@ -392,7 +390,7 @@ public final class DealTest {
         return has;
     }
 
-    private void likeRandom(int people, int roads, boolean doubts) {
+    private void likeRandom(int people, int roads) {
         Brute net = Brute.random(due, people, roads, 4, 8);
         String text = net.text(due);
         if (net.roads == 0 || text.length() > 900) {

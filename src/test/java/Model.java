@@ -192,21 +192,14 @@ final class Model {
     }
 
     Brute now() {
-        Brute net = new Brute();
-        net.people = people;
+        Brute net = Brute.of(people, roads);
         net.alone = alone;
-        net.roads = roads;
         net.taste = taste;
         net.doubt = doubt;
-        net.first = new int[roads];
-        net.second = new int[roads];
-        net.open = new boolean[roads];
-        net.made = new int[roads];
         for (int road = 0; road < roads; road++) {
-            net.first[road] = told[road][0];
-            net.second[road] = told[road][1];
-            net.open[road] = worthNow(road) >= 0;
-            net.made[road] = net.open[road] ? worthNow(road) + tastes(road) : 0;
+            int worth = worthNow(road);
+            net.add(told[road][0], told[road][1], worth >= 0 ? worth + tastes(road) : 0);
+            net.open[road] = worth >= 0;
         }
         return net;
     }

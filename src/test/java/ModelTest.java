@@ -17,7 +17,7 @@ public final class ModelTest {
 
     public static void main(String[] args) {
         ModelTest test = new ModelTest();
-        for (int n = 0; n < 500; n++) {
+        for (int n = 0; n < 2000; n++) {
             test.one();
         }
         test.due.end();

@@ -19,10 +19,13 @@ public final class MostTest {
         for (int n = 0; n < 60; n++) {
             test.beside(Brute.random(test.due, 7 + test.due.next(3), 13, 3, 1 + test.due.next(3)), true);
         }
+        for (int n = 0; n < 20; n++) {
+            test.beside(Brute.random(test.due, 10 + test.due.next(3), 14, 3, 1 + test.due.next(2)), true);
+        }
         for (int n = 0; n < 40; n++) {
             test.beside(Brute.random(test.due, 7 + test.due.next(6), 60, 9, 3 + test.due.next(20)), false);
         }
-        test.due.is("enough nets", test.nets > 480, true);
+        test.due.is("enough nets", test.nets > 500, true);
         test.due.end();
     }
 
@@ -172,6 +175,7 @@ public final class MostTest {
 
     private void checkMost(RoadDeals x, Brute net) {
         due.is("most", x.most(false), net.most(net.everybody()));
+        due.is("halves", x.most(true), net.halvesByRows());
         due.is("ways", x.ways(), net.ways());
         int row = net.row();
         int k = 0;

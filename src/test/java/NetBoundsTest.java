@@ -36,6 +36,7 @@ public final class NetBoundsTest {
         test.twosRefused();
         test.prices();
         test.waysToMakeIt();
+        test.manyWays();
         test.asManyAsCanBe();
         test.due.end();
     }
@@ -569,29 +570,31 @@ public final class NetBoundsTest {
                 + "road b d worth 1;road c d worth 1;").ways(), 3);
     }
 
-    /** 12 of WHO and 30 ROADS */
-    private void asManyAsCanBe() {
-        StringBuilder text = new StringBuilder(TextTest.people(12));
-        Brute net = new Brute();
-        net.people = 12;
-        net.alone = new int[12];
-        net.first = new int[30];
-        net.second = new int[30];
-        net.open = new boolean[30];
-        net.made = new int[30];
-        net.doubt = new int[30];
-        for (int one = 0; one < 6; one++) {
-            for (int step = 0; step < 5; step++) {
-                int other = 6 + (one + step) % 6;
-                text.append("road ").append(Brute.name(one)).append(' ').append(Brute.name(other)).append(" worth 1;");
-                net.first[net.roads] = one;
-                net.second[net.roads] = other;
-                net.open[net.roads] = true;
-                net.made[net.roads] = 1;
-                net.roads++;
+    /** So many that none can have more by far: four, each with a road to nearly all of eight */
+    private void manyWays() {
+        Brute net = Brute.of(12, 30);
+        for (int other = 4; other < 12; other++) {
+            for (int one = 0; one < 4 && net.roads < 30; one++) {
+                net.add(one, other, 1);
             }
         }
-        RoadDeals x = Due.with(text.toString());
+        RoadDeals x = Due.with(net.text(due));
+        due.is("ways", x.ways(), net.ways());
+        due.is("more than a thousand", x.ways() > 1000, true);
+        due.is("most", x.most(false), 4);
+        due.is("row", x.row(3), 15);
+        due.is("row", x.row(4), -1);
+    }
+
+    /** 12 of WHO and 30 ROADS */
+    private void asManyAsCanBe() {
+        Brute net = Brute.of(12, 30);
+        for (int one = 0; one < 6; one++) {
+            for (int step = 0; step < 5; step++) {
+                net.add(one, 6 + (one + step) % 6, 1);
+            }
+        }
+        RoadDeals x = Due.with(net.text(due));
         due.is("roads", x.has(1), 30);
         due.is("most", x.most(false), 6);
         due.is("halves", x.most(true), 12);

@@ -40,6 +40,7 @@ public final class TextBoundsTest {
         test.namesOfNobody();
         test.oneTooMany();
         test.ninthOpen();
+        test.muchThatWaits();
         test.sumsOfBillions();
         test.byNothing();
         test.below();
@@ -635,6 +636,31 @@ public final class TextBoundsTest {
         due.wrong(5, ABC + "road a b worth 1 when not [not [[[[[[[not |[all]]]]]]]]];");
         due.right(ABC + "road a b worth 1 when " + "[all] and ".repeat(20) + "[all];", 4);
         due.right(ABC + "road a b worth " + "(1)+".repeat(50) + "(1);", 4);
+    }
+
+    /** As much as can wait for what is open: at each of eight a sum, a product and the first of two */
+    private void muchThatWaits() {
+        String sum = "day";
+        int value = 5;
+        for (int open = 0; open < 8; open++) {
+            sum = "1+2*max(3," + sum + ")";
+            value = 1 + 2 * value;
+        }
+        RoadDeals x = Due.with(ABC + "road a b worth " + sum + ";");
+        x.day(5);
+        due.is(sum, x.made(0, 0), value);
+        due.wrong(5, ABC + "road a b worth " + sum.replace("day", "1+2*max|(1,2)"));
+        String test = "1+2*day>6";
+        String turned = "1+2*day>9";
+        for (int open = 0; open < 8; open++) {
+            test = "not all or all and [" + test + "]";
+            turned = "not all or all and [" + turned + "]";
+        }
+        x = Due.with(ABC + "road a b worth 1 when " + test + ";road b c worth 1 when " + turned + ";");
+        x.day(4);
+        due.is(test, x.made(0, 0), 1);
+        due.is(turned, x.made(1, 0), Due.NO_NUMBER);
+        due.wrong(5, ABC + "road a b worth 1 when " + test.replace("1+2", "1+2*|(1)"));
     }
 
     private static final String BILLION = "(1000*1000*1000)";
