@@ -41,6 +41,7 @@ public final class TextBoundsTest {
         test.oneTooMany();
         test.ninthOpen();
         test.muchThatWaits();
+        test.manySumsAndTests();
         test.sumsOfBillions();
         test.byNothing();
         test.below();
@@ -661,6 +662,21 @@ public final class TextBoundsTest {
         due.is(test, x.made(0, 0), 1);
         due.is(turned, x.made(1, 0), Due.NO_NUMBER);
         due.wrong(5, ABC + "road a b worth 1 when " + test.replace("1+2", "1+2*|(1)"));
+    }
+
+    /** As many sums and tests as have room, and behind them one that waits for much: none is reckoned with another's */
+    private void manySumsAndTests() {
+        StringBuilder text = new StringBuilder(TextTest.people(9));
+        for (int n = 0; n < 28; n++) {
+            text.append("road ").append(Brute.name(n % 9)).append(' ').append(Brute.name((n + 1 + n / 9) % 9));
+            text.append(" worth ").append(n % 10).append(" when all;");
+        }
+        text.append("road i d worth 2+3*max(4,5+6*max(7,8+9*7));");
+        RoadDeals x = Due.with(text.toString());
+        for (int n = 0; n < 28; n++) {
+            due.is("made " + n, x.made(n, 0), n % 10);
+        }
+        due.is("the last one", x.made(28, 0), 2 + 3 * (5 + 6 * 71));
     }
 
     private static final String BILLION = "(1000*1000*1000)";
